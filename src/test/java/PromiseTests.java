@@ -269,11 +269,34 @@ public final class PromiseTests {
         is("a new file in its place", v.make(0, 51, false), 3);
         is("has no positions", v.of(3, 2), 0);
         is("has one link", v.of(3, 1), 1);
+        removeBesideOthers();
         is("remove in a damaged volume", smallDamaged().remove(0, 2), -1);
         is("remove of what is not empty in a damaged volume", smallDamaged().remove(0, 1), -1);
         is("remove, log full", smallWithFullLog().remove(0, 2), -3);
         is("remove, log full, not empty", smallWithFullLog().remove(0, 1), -4);
         is("remove, log full, no entry", smallWithFullLog().remove(0, 3), -1);
+    }
+
+    /** The first in the order of the hash is 17, the last is 36: what is next to an inode's own stays as it is. */
+    private static void removeBesideOthers() {
+        JournalVolume v = small();
+        v.make(0, 30, true);
+        v.make(0, 31, true);
+        v.make(5, 17, false);
+        v.make(5, 36, false);
+        v.write(3, 0, 5);
+        v.write(3, 23, 6);
+        names(v, 4);
+        is("remove of a directory", v.remove(0, 30), 4);
+        names(v, 5, 17, 36);
+        is("remove of a file", v.remove(0, 2), 2);
+        is("read(3, 0)", v.read(3, 0), 5);
+        is("read(3, 23)", v.read(3, 23), 6);
+        is("make(0, 30, true)", v.make(0, 30, true), 2);
+        is("make(2, 17, false)", v.make(2, 17, false), 4);
+        is("remove(2, 17)", v.remove(2, 17), 4);
+        is("remove(0, 30)", v.remove(0, 30), 2);
+        is("entry(5, 0, 1)", v.entry(5, 0, 1), 6);
     }
 
     private static void move() {
@@ -364,6 +387,7 @@ public final class PromiseTests {
         is("write to no position, log full", smallWithFullLog().write(2, 24, 1), -1);
         choose();
         chooseAtTheEnds();
+        chooseBesideOthers();
         sixthExtentOfWrite();
         JournalVolume all = allBlocks();
         is("all blocks marked", all.write(6, 0, 1), -3);
@@ -429,6 +453,30 @@ public final class PromiseTests {
         is("write(6, 23, 0)", v.write(6, 23, 0), 0);
         is("no block before 0", v.write(6, 22, 0), 1);
         extents(v, 6, 22, 1, 1, 23, 0, 1);
+    }
+
+    /** The ends of one file are no neighbours of the ends of another. */
+    private static void chooseBesideOthers() {
+        JournalVolume v = small();
+        is("make(0, 9, false)", v.make(0, 9, false), 4);
+        is("write(4, 10, 0)", v.write(4, 10, 0), 0);
+        is("write(2, 23, 0)", v.write(2, 23, 0), 1);
+        is("write(3, 0, 0)", v.write(3, 0, 0), 2);
+        extents(v, 2, 23, 1, 1);
+        extents(v, 3, 0, 2, 1);
+        is("write(4, 0, 0)", v.write(4, 0, 0), 3);
+        is("punch(4, 0, 24)", v.punch(4, 0, 24), 2);
+        is("no neighbour: not block 0", v.write(4, 5, 0), 3);
+        is("write(4, 20, 0)", v.write(4, 20, 0), 4);
+        is("punch(4, 5, 1)", v.punch(4, 5, 1), 1);
+        is("punch(2, 23, 1)", v.punch(2, 23, 1), 1);
+        is("not before the block of file 3", v.write(2, 23, 0), 5);
+        JournalVolume w = small();
+        is("write(2, 23, 0)", w.write(2, 23, 0), 0);
+        is("write(3, 10, 0)", w.write(3, 10, 0), 1);
+        is("write(3, 12, 0)", w.write(3, 12, 0), 2);
+        is("punch(3, 10, 1)", w.punch(3, 10, 1), 1);
+        is("not behind the block of file 2", w.write(3, 0, 0), 3);
     }
 
     private static void sixthExtentOfWrite() {
@@ -559,6 +607,7 @@ public final class PromiseTests {
         is("crash(24)", v.crash(24), 0);
         is("all left is safe", v.state(3), 3);
         crashOfEach();
+        crashOfMove();
         crashOfDamaged();
     }
 
@@ -606,6 +655,24 @@ public final class PromiseTests {
         extents(v, 2, 0, 0, 2);
         is("make(0, 9, true)", v.make(0, 9, true), 4);
         names(v, 4);
+    }
+
+    private static void crashOfMove() {
+        JournalVolume v = smallInPlace();
+        v.make(0, 9, true);
+        v.make(1, 9, true);
+        v.make(4, 9, true);
+        v.sync();
+        is("move(1, 9, 4, 8)", v.move(1, 9, 4, 8), 5);
+        is("move(4, 9, 5, 8)", v.move(4, 9, 5, 8), 6);
+        is("crash(1)", v.crash(1), 1);
+        is("of(5, 4)", v.of(5, 4), 4);
+        is("of(6, 4)", v.of(6, 4), 4);
+        v.checkpoint();
+        is("move(4, 8, 1, 9)", v.move(4, 8, 1, 9), 5);
+        is("crash(0)", v.crash(0), 1);
+        is("of(5, 4)", v.of(5, 4), 4);
+        is("LOOP", v.move(0, 9, 5, 1), -5);
     }
 
     private static void crashOfDamaged() {
@@ -709,6 +776,7 @@ public final class PromiseTests {
         is("log not empty", small().mend(), -1);
         mendings(smallInPlace(), 0, 0, 0, 0, 0);
         mendEntries();
+        mendWhatIsFirstInOrder();
         mendInBreadth();
         mendNotMet();
         mendWithFullRoot();
@@ -743,6 +811,20 @@ public final class PromiseTests {
         names(v, 1);
         is("of(5, 4)", v.of(5, 4), 0);
         mendings(v, 0, 0, 0, 0, 0);
+    }
+
+    /** The first in the order of the hash is 17. */
+    private static void mendWhatIsFirstInOrder() {
+        JournalVolume v = new JournalVolume();
+        v.make(0, 30, true);
+        v.make(0, 31, true);
+        v.make(2, 17, true);
+        v.make(0, 17, false);
+        v.checkpoint();
+        mendings(v, 0, 0, 0, 0, 0);
+        is("find(2, 17)", v.find(2, 17), 3);
+        is("of(3, 4)", v.of(3, 4), 2);
+        is("of(4, 1)", v.of(4, 1), 1);
     }
 
     /** A directory named at two depths is met where it is nearer to the root. */
