@@ -152,8 +152,7 @@ public final class JournalVolume {
         mapped[place] = block;
         marked[block] = 1;
         held[block] = v;
-        if (countExtents(file) > MOST_EXTENTS) {
-            loseRecordsBehind(records - 1);
+        if (tookBackSixthExtent(file)) {
             return FULL;
         }
         return block;
@@ -169,8 +168,7 @@ public final class JournalVolume {
         int before = countMapped(file);
         openRecord();
         makeHoles(file, from, many);
-        if (countExtents(file) > MOST_EXTENTS) {
-            loseRecordsBehind(records - 1);
+        if (tookBackSixthExtent(file)) {
             return FULL;
         }
         int after = countMapped(file);
@@ -511,6 +509,15 @@ public final class JournalVolume {
             }
         }
         return many;
+    }
+
+    private boolean tookBackSixthExtent(int file) {
+        // A new block may join two extents or none, so their number is only known once the change is made.
+        if (countExtents(file) <= MOST_EXTENTS) {
+            return false;
+        }
+        loseRecordsBehind(records - 1);
+        return true;
     }
 
     private int startOfExtent(int file, int k) {
